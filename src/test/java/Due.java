@@ -2,6 +2,7 @@
 final class Due {
     static final long NO_CELL = -1001;
     static final long NO_BOARD = -1002;
+    static final long MACHINE_THREW = -1003;
 
     private final String name;
     private int right;
@@ -83,7 +84,7 @@ final class Due {
         try {
             return boards.move(way);
         } catch (ArrayIndexOutOfBoundsException e) {
-            return NO_CELL;
+            return thrown(e);
         } catch (IllegalStateException e) {
             return NO_BOARD;
         }
@@ -93,7 +94,7 @@ final class Due {
         try {
             return boards.way(x, y);
         } catch (ArrayIndexOutOfBoundsException e) {
-            return NO_CELL;
+            return thrown(e);
         }
     }
 
@@ -101,7 +102,7 @@ final class Due {
         try {
             return boards.dead(x, y) ? 1 : 0;
         } catch (ArrayIndexOutOfBoundsException e) {
-            return NO_CELL;
+            return thrown(e);
         }
     }
 
@@ -109,8 +110,14 @@ final class Due {
         try {
             return boards.pushes(x, y, x2, y2);
         } catch (ArrayIndexOutOfBoundsException e) {
-            return NO_CELL;
+            return thrown(e);
         }
+    }
+
+    /** The class throws by itself; what the machine throws is told apart by its text. */
+    private static long thrown(ArrayIndexOutOfBoundsException e) {
+        boolean byMachine = e.getMessage() != null && e.getMessage().startsWith("Index ");
+        return byMachine ? MACHINE_THREW : NO_CELL;
     }
 
     static String times(String text, int count) {

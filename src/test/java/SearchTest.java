@@ -125,7 +125,8 @@ public final class SearchTest {
         // Done from the start comes first.
         found(Due.board("@|$$$"), 100, 0, 1);
         // Pushed there and back: the states come to before are taken in once.
-        found(Due.board("#######|#@    #|#  $  #|#     #|#   . #|#     #|#######"), 10000, 3, 0);
+        // Live are the nine cells that a box can come to and leave; the goal is the last of them come to.
+        found(Due.board("#######|#@    #|# $   #|#     #|#   . #|#     #|#######"), 9, 4, 9);
     }
 
     private static void resultStays() {

@@ -1,10 +1,13 @@
-/** What the tests share: it compares answers with what is due, and writes texts into an object. */
-final class Due {
-    static final long NO_CELL = -1001;
-    static final long NO_BOARD = -1002;
-    static final long MACHINE_THREW = -1003;
+import java.lang.reflect.InvocationTargetException;
+import java.lang.reflect.Method;
+import java.lang.reflect.Modifier;
+import java.util.Arrays;
+import java.util.Comparator;
 
+/** Compares answers with what is due, and runs the cases of a test class one by one. */
+final class Due {
     private final String name;
+    private String caseName = "";
     private int right;
     private int wrong;
 
@@ -15,10 +18,9 @@ final class Due {
     void is(String call, long got, long want) {
         if (got == want) {
             right++;
-            return;
+        } else {
+            tellWrong(call + " answered " + got + ", due is " + want);
         }
-        wrong++;
-        System.out.println(name + ": " + call + " answered " + got + ", due is " + want);
     }
 
     void is(String call, boolean got, boolean want) {
@@ -26,101 +28,52 @@ final class Due {
     }
 
     void is(String call, String got, String want) {
-        is(call + " (" + got + " for " + want + ")", got.equals(want) ? 1 : 0, 1);
+        if (got.equals(want)) {
+            right++;
+        } else {
+            tellWrong(call + " answered " + got + ", due is " + want);
+        }
+    }
+
+    /** Each static method without arguments that is not private is a case of its own, named after what it looks at. */
+    void runCases(Class<?> test) {
+        Method[] methods = test.getDeclaredMethods();
+        Arrays.sort(methods, Comparator.comparing(Method::getName));
+        for (Method method : methods) {
+            int hidden = method.getModifiers() & Modifier.PRIVATE;
+            if (method.getParameterCount() == 0 && hidden == 0 && Modifier.isStatic(method.getModifiers())) {
+                runCase(method);
+            }
+        }
+        end();
+    }
+
+    private void runCase(Method method) {
+        caseName = ", " + method.getName();
+        int rightBefore = right;
+        int wrongBefore = wrong;
+        try {
+            method.invoke(null);
+        } catch (InvocationTargetException e) {
+            tellWrong("threw " + e.getCause());
+        } catch (IllegalAccessException e) {
+            tellWrong("can't be run: " + e);
+        }
+        if (right == rightBefore && wrong == wrongBefore) {
+            tellWrong("looked at nothing");
+        }
+        System.out.println((wrong == wrongBefore ? "ok     " : "FAILED ") + name + caseName);
+    }
+
+    private void tellWrong(String what) {
+        wrong++;
+        System.out.println(name + caseName + ": " + what);
     }
 
     void end() {
-        System.out.println(name + ": " + right + " as due, " + wrong + " not");
+        System.out.println(name + ": " + right + " answers as due, " + wrong + " not");
         if (wrong > 0 || right == 0) {
             System.exit(1);
         }
-    }
-
-    static void write(PushBoards boards, String text) {
-        for (int i = 0; i < text.length(); i++) {
-            if (!boards.unit(text.charAt(i))) {
-                throw new AssertionError("unit refused " + text.charAt(i));
-            }
-        }
-    }
-
-    static int read(PushBoards boards, String picture) {
-        write(boards, picture);
-        return boards.read();
-    }
-
-    static int row(PushBoards boards, String moves) {
-        write(boards, moves);
-        return boards.row();
-    }
-
-    static PushBoards board(String picture) {
-        PushBoards boards = new PushBoards();
-        if (read(boards, picture) < 0) {
-            throw new AssertionError("not a board: " + picture);
-        }
-        return boards;
-    }
-
-    /** The picture, with | behind each row. */
-    static String picture(PushBoards boards) {
-        StringBuilder all = new StringBuilder();
-        for (int i = 0; boards.picture(i) >= 0; i++) {
-            int unit = boards.picture(i);
-            all.append(unit == 10 ? '|' : (char) unit);
-        }
-        return all.toString();
-    }
-
-    static String letters(PushBoards boards) {
-        StringBuilder all = new StringBuilder();
-        for (int i = 0; boards.letter(i) >= 0; i++) {
-            all.append((char) boards.letter(i));
-        }
-        return all.toString();
-    }
-
-    static long move(PushBoards boards, int way) {
-        try {
-            return boards.move(way);
-        } catch (ArrayIndexOutOfBoundsException e) {
-            return thrown(e);
-        } catch (IllegalStateException e) {
-            return NO_BOARD;
-        }
-    }
-
-    static long way(PushBoards boards, int x, int y) {
-        try {
-            return boards.way(x, y);
-        } catch (ArrayIndexOutOfBoundsException e) {
-            return thrown(e);
-        }
-    }
-
-    static long dead(PushBoards boards, int x, int y) {
-        try {
-            return boards.dead(x, y) ? 1 : 0;
-        } catch (ArrayIndexOutOfBoundsException e) {
-            return thrown(e);
-        }
-    }
-
-    static long pushes(PushBoards boards, int x, int y, int x2, int y2) {
-        try {
-            return boards.pushes(x, y, x2, y2);
-        } catch (ArrayIndexOutOfBoundsException e) {
-            return thrown(e);
-        }
-    }
-
-    /** The class throws by itself; what the machine throws is told apart by its text. */
-    private static long thrown(ArrayIndexOutOfBoundsException e) {
-        boolean byMachine = e.getMessage() != null && e.getMessage().startsWith("Index ");
-        return byMachine ? MACHINE_THREW : NO_CELL;
-    }
-
-    static String times(String text, int count) {
-        return text.repeat(count);
     }
 }

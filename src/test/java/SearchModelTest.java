@@ -31,7 +31,7 @@ public final class SearchModelTest {
     }
 
     private static int compare(String picture, PlainBoards plain, int most) {
-        PushBoards boards = Due.board(picture);
+        Boards boards = Boards.of(picture);
         int answer = plain.search(most);
         String name = picture + " search(" + most + ")";
         due.is(name, boards.search(most), answer);

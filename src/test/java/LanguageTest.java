@@ -16,6 +16,7 @@ public final class LanguageTest {
         "int fast()", "int letter(int)", "int move(int)", "int picture(int)", "int push(int)",
         "int pushes(int,int,int,int)", "int reach()", "int read()", "int row()", "int search(int)", "int states()",
         "int told(int)", "int undo()", "int way(int,int)"};
+    private static final String NO_INDEX = "java.lang.ArrayIndexOutOfBoundsException";
 
     public static void main(String[] args) throws IOException {
         face();
@@ -37,6 +38,7 @@ public final class LanguageTest {
                 comma = ",";
             }
             seen.add(head.append(")").toString());
+            due.is(method.getName() + " tells what it throws", thrownBy(method), thrownDue(method.getName()));
             due.is(method.getName() + " is public", Modifier.isPublic(method.getModifiers()), true);
             due.is(method.getName() + " is of the object", Modifier.isStatic(method.getModifiers()), false);
         }
@@ -47,6 +49,27 @@ public final class LanguageTest {
         }
         for (Field field : PushBoards.class.getDeclaredFields()) {
             due.is(field.getName() + " is private", Modifier.isPrivate(field.getModifiers()), true);
+        }
+    }
+
+    private static String thrownBy(Method method) {
+        StringBuilder all = new StringBuilder();
+        for (Class<?> type : method.getExceptionTypes()) {
+            all.append(type.getName()).append(' ');
+        }
+        return all.toString();
+    }
+
+    private static String thrownDue(String name) {
+        switch (name) {
+            case "move":
+                return NO_INDEX + " java.lang.IllegalStateException ";
+            case "way":
+            case "dead":
+            case "pushes":
+                return NO_INDEX + " ";
+            default:
+                return "";
         }
     }
 

@@ -58,6 +58,20 @@ public final class Promise15Test {
         due.is("bound()", boards.bound(), 3);
     }
 
+    static void twiceItIsTheSame() {
+        Boards boards = Boards.of("@$ .$  .|########|.  $. $_|########|_$. .$ _|########|_$$ .. _");
+        for (int time = 0; time < 3; time++) {
+            due.is("bound()", boards.bound(), 18);
+        }
+    }
+
+    static void behindABoardWhereItCantBe() {
+        Boards boards = Boards.of("$     |      | @$ ..|      ");
+        due.is("bound()", boards.bound(), -1);
+        due.is("read()", boards.read("@  .| $$ |#   "), 2);
+        due.is("bound()", boards.bound(), 2);
+    }
+
     /** Costs of a larger board before must not be left over. */
     static void ofTheLatestBoard() {
         Boards boards = Boards.of("@$$$.  .");

@@ -6,6 +6,14 @@ public final class Promise17Test {
     /** All nine live cells are come to, the goal last of them. */
     private static final String ROOM = "#######|#@    #|# $   #|#     #|#   . #|#     #|#######";
 
+    /**
+     * One of two goals is walled in, and 35 places are live: the inner six by six but for the one in the corner
+     * that has walls below it and on its right. Two boxes can come to any two of them, and hold nobody up.
+     */
+    private static final String NEVER_DONE =
+        "@       |        |  $     |   .    |    $   |        |       #|      #.";
+    private static final int TWO_OF_35 = 35 * 34 / 2;
+
     public static void main(String[] args) {
         due.runCases(Promise17Test.class);
     }
@@ -86,6 +94,11 @@ public final class Promise17Test {
         is(" ||$|@", 10, 0, 1);
     }
 
+    static void doneAtOnceThoughThereArePushes() {
+        is("@*   ", 10, 0, 1);
+        is("@*   ", 1, 0, 1);
+    }
+
     static void doneAtOnceThoughStuck() {
         is("@|$$$", 10, 0, 1);
     }
@@ -111,6 +124,12 @@ public final class Promise17Test {
 
     static void noneWithOneStateTooFew() {
         is(".@$  ", 1, -2, 1);
+    }
+
+    static void noneAmongManyStates() {
+        is(NEVER_DONE, 10000, -1, TWO_OF_35);
+        is(NEVER_DONE, TWO_OF_35, -1, TWO_OF_35);
+        is(NEVER_DONE, TWO_OF_35 - 1, -2, TWO_OF_35 - 1);
     }
 
     static void justEnoughStates() {

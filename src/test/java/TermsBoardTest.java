@@ -46,6 +46,23 @@ public final class TermsBoardTest {
         cantLeave("   |   |  @", 0, 1);
     }
 
+    static void outsideIsWallOnBoardsOfEverySize() {
+        for (int w = 1; w <= 8; w++) {
+            for (int h = 1; h <= 8; h++) {
+                String line = " ".repeat(w - 1);
+                String rows = (line + " |").repeat(h - 1);
+                Boards low = Boards.of(rows + line + "@");
+                due.is(w + " by " + h + " move(0)", low.move(0), 0);
+                due.is(w + " by " + h + " move(1)", low.move(1), 0);
+                due.is(w + " by " + h + " reach()", low.reach(), w * h);
+                Boards high = Boards.of("@" + line + "|" + rows);
+                due.is(w + " by " + h + " move(2)", high.move(2), 0);
+                due.is(w + " by " + h + " move(3)", high.move(3), 0);
+                due.is(w + " by " + h + " way", high.way(w - 1, h - 1), w + h - 2);
+            }
+        }
+    }
+
     static void outsideIsWallForThePersonOnTheLargestBoard() {
         cantLeave("@       ||||||||", 2, 3);
         cantLeave("       @||||||||", 0, 3);

@@ -56,6 +56,40 @@ public final class TermsBoundTest {
         is("@$ .$  .", 2 + 3);
     }
 
+    /** Four lanes with two boxes and two goals each: 5, 5, 2 and 6. */
+    static void theSumIsLeastInEachOfFourLanes() {
+        is("@$ .$  .|########|.  $. $_|########|_$. .$ _|########|_$$ .. _", 5 + 5 + 2 + 6);
+    }
+
+    /** The box nearest to the first goal is the only one that is one step from the second. */
+    static void theSumIsLeastWithABoxMore() {
+        is("@. $.| #$$ | #   ", 2 + 1);
+    }
+
+    static void theSumIsLeastWithThreeGoals() {
+        is("@.    | $# $ |.. $$ ", 1 + 2 + 4);
+        is("@$ .|$  $|. $.", 1 + 1 + 1);
+    }
+
+    /** As many boxes as goals, but one lane has a goal too many, and another one a box. */
+    static void aLaneHasAGoalTooMany() {
+        is("@$ .$  .|########|.  $. .|########|_$. $$ _", -1);
+    }
+
+    static void boxesAndGoalsByTurns() {
+        is("@$.$.$. ", 3);
+        is(".$.$.$ @", 3);
+    }
+
+    static void aGoalAtTheFirstCell() {
+        is(".$@", 1);
+        is(".|$|@", 1);
+    }
+
+    static void aGoalAtTheLastCell() {
+        is("@       ||||||       $|       .", 1);
+    }
+
     static void aBoxMoreThanGoals() {
         is("@$ $. ", 1);
         is("$     |@ $ . |      ", 2);

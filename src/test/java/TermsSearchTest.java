@@ -58,6 +58,14 @@ public final class TermsSearchTest {
         is("@$|.", -1, 1);
     }
 
+    /** Nobody can stand outside, nor push round the edge from the row above or below. */
+    static void theOutsideBehindTheBox() {
+        is("$ .@", -1, 1);
+        is("       @|$ .     ", -1, 1);
+        is("     . $|@       ", -1, 1);
+        is("@|_|.|_|$", -1, 1);
+    }
+
     static void aPushToADeadPlaceIsPassedOver() {
         is(".@$ ", -1, 1);
         is(".@$  ", -1, 2);

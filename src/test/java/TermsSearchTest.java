@@ -88,6 +88,15 @@ public final class TermsSearchTest {
         is("@$. $ ", 1, 2, 4);
     }
 
+    /** Two pushes would do it, but the words make no exception for a box that no goal needs. */
+    static void aSpareBoxOnADeadPlaceIsPassedOverToo() {
+        Boards boards = Boards.of("@$ |#$#|#.#");
+        due.is("the spare box, move(0)", boards.move(0), 2);
+        due.is("the other one, move(1)", boards.move(1), 2);
+        due.is("told(8)", boards.told(8), 1);
+        is("@$ |#$#|#.#", -1, 1);
+    }
+
     /** A start that is stuck is not passed over, but all that comes behind it is. */
     static void stuckFromTheStart() {
         is("$     |      | @$.  |      |      ", -1, 1);

@@ -88,13 +88,27 @@ public final class TermsSearchTest {
         is("@$. $ ", 1, 2, 4);
     }
 
-    /** Two pushes would do it, but the words make no exception for a box that no goal needs. */
-    static void aSpareBoxOnADeadPlaceIsPassedOverToo() {
-        Boards boards = Boards.of("@$ |#$#|#.#");
-        due.is("the spare box, move(0)", boards.move(0), 2);
-        due.is("the other one, move(1)", boards.move(1), 2);
+    /** Moves that end a board of which only one box is needed, with so many pushes. */
+    private static void canBeDone(String picture, String moves, int pushes) {
+        Boards boards = Boards.of(picture);
+        due.is(picture + " stuck()", boards.stuck(), false);
+        due.is(moves, boards.row(moves), moves.length());
+        due.is("pushes among them", boards.told(6), pushes);
         due.is("told(8)", boards.told(8), 1);
-        is("@$ |#$#|#.#", -1, 1);
+    }
+
+    /** The words make no exception for a box that no goal needs: here the only way parks it at (3, 1). */
+    static void aSpareBoxOnADeadPlaceIsPassedOverToo() {
+        canBeDone(".$ #|#@$ |#  #", "rul", 2);
+        is(".$ #|#@$ |#  #", -1, 1);
+    }
+
+    /** Here there is another way, which takes one push more. */
+    static void aSpareBoxOnADeadPlaceWouldSaveAPush() {
+        canBeDone("   #.|  $  | $ # |#@   ", "ruLuRRlddrruU", 4);
+        Boards boards = Boards.of("   #.|  $  | $ # |#@   ");
+        due.is("search()", boards.search(10000), 5);
+        due.is("states()", boards.states(), 12);
     }
 
     /** A start that is stuck is not passed over, but all that comes behind it is. */
